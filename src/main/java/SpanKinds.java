@@ -1535,6 +1535,7 @@ public final class SpanKinds {
         final int[] want = new int[MOST_NODES];
         int count;
         int preferred;
+        private int fixed;
         private final Edges edges = new Edges(MOST_CUTS);
         private final int[] cutAt = new int[MOST_CUTS];
         private final int[] cutWant = new int[MOST_CUTS];
@@ -1543,9 +1544,10 @@ public final class SpanKinds {
 
         void make(Store store, int byDefault) {
             preferred = byDefault;
+            fixed = store.fixed;
             edges.begin(store.addresses);
             edges.cutSpans(store);
-            edges.cut(store.fixed);
+            edges.cut(fixed);
             joinAlike(store);
             count = 0;
             cut = 0;
@@ -1556,7 +1558,7 @@ public final class SpanKinds {
             cuts = 0;
             for (int i = 0; i + 1 < edges.count; i++) {
                 int start = edges.at[i];
-                int wish = start < store.fixed ? UNTOUCHED : store.wantedAt(start, preferred);
+                int wish = start < fixed ? UNTOUCHED : store.wantedAt(start, preferred);
                 if (cuts == 0 || cutWant[cuts - 1] != wish) {
                     cutAt[cuts] = start;
                     cutWant[cuts] = wish;
@@ -1586,6 +1588,12 @@ public final class SpanKinds {
             }
             next[node] = count;
             return node;
+        }
+
+        /** How many addresses of a node are not FIXED. */
+        int open(int node) {
+            int end = base[node] + size[node];
+            return Math.max(0, end - Math.max(base[node], fixed));
         }
 
         /** Whether a node that is not halved is RIGHT by what it has, SEEN through a PAGE's KIND. */
@@ -1631,7 +1639,9 @@ public final class SpanKinds {
         }
 
         void layPlan(Store store, Blocks target) {
-            fewestOver(store, store.preferred);
+            tree.make(store, store.preferred);
+            overOthers = true;
+            weighWithin(0, NO_OWN);
             laid = target;
             laid.count = 0;
             layWithin(0, NOTHING, 0);
@@ -1813,19 +1823,34 @@ public final class SpanKinds {
             return (node * HAVES + had) * COUNTS + blocks;
         }
 
+        /** With one block more there is nothing to look for where all are RIGHT already. */
         private void weigh(int node, int had) {
-            boolean right = tree.want[node] != Tree.UNTOUCHED && tree.isRight(node, had, NO_OWN);
+            int open = tree.open(node);
+            int best = -1;
             for (int blocks = 0; blocks < COUNTS; blocks++) {
-                int best = tree.upper[node] != 0 ? bestByHalves(node, had, blocks)
-                    : right ? tree.size[node] : 0;
-                for (int kind = 0; kind < KINDS && blocks > 0; kind++) {
-                    int has = LAID[had * KINDS + kind];
-                    if (has >= 0) {
-                        best = Math.max(best, most[cell(node, has, blocks - 1)]);
-                    }
+                if (best < open) {
+                    best = Math.max(asItIs(node, had, blocks), byItself(node, had, blocks));
                 }
                 most[cell(node, had, blocks)] = best;
             }
+        }
+
+        private int asItIs(int node, int had, int blocks) {
+            if (tree.upper[node] != 0) {
+                return bestByHalves(node, had, blocks);
+            }
+            return tree.isRight(node, had, NO_OWN) ? tree.open(node) : 0;
+        }
+
+        private int byItself(int node, int had, int blocks) {
+            int best = 0;
+            for (int kind = 0; kind < KINDS && blocks > 0; kind++) {
+                int has = LAID[had * KINDS + kind];
+                if (has >= 0) {
+                    best = Math.max(best, most[cell(node, has, blocks - 1)]);
+                }
+            }
+            return best;
         }
 
         private int bestByHalves(int node, int had, int blocks) {

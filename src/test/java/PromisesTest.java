@@ -169,6 +169,14 @@ public final class PromisesTest {
         faulty("space none;", 1, 6);
         faulty("default 1;", 1, 8);
         faulty("default nonee;", 1, 8);
+        faulty("default nonez;", 1, 8);
+        faulty("default anone;", 1, 8);
+        faulty("default none`;", 1, 12);
+        faulty("default none{;", 1, 12);
+        faulty("space 4/;", 1, 7);
+        faulty("space 4:;", 1, 7);
+        faulty("space 4\n\n", 1, 9);
+        faulty("span\u00e9 4;", 1, 4);
         faulty("spaces 4;", 1, 0);
         faulty("Space 4;", 1, 0);
         faulty("space\t4;", 1, 5);
@@ -462,6 +470,48 @@ public final class PromisesTest {
         x.mend();
         due("an act that changes nothing ends it", x.redo(), false);
         due("acts", x.about(7), 2);
+    }
+
+    /** What was found out ahead of an ACT is not told behind it. */
+    private static void found(String when, SpanKinds x, int blocks, int right, int pages, int steps) {
+        due(when + ": plan", x.plan(-1, 0), blocks);
+        due(when + ": most", x.most(1), right);
+        due(when + ": bestSet", x.bestSet(10, -1, 0) > 0, blocks > 0);
+        due(when + ": withPages", x.withPages(1), pages);
+        due(when + ": change", x.change(0), steps);
+        due(when + ": runs", x.about(6), blocks + 1);
+    }
+
+    private static void foundAnew() {
+        SpanKinds x = of("space 5;default back;");
+        found("at first", x, 0, 32, 0, 0);
+        x.span(16, 31, 2);
+        found("span", x, 1, 32, 1, 1);
+        x.undo();
+        found("undo", x, 0, 32, 0, 0);
+        x.redo();
+        found("redo", x, 1, 32, 1, 1);
+        x.image(0);
+        x.drop(0);
+        found("drop", x, 0, 32, 0, 0);
+        x.back(0);
+        found("back", x, 1, 32, 1, 1);
+        x.prefer(2);
+        found("prefer", x, 0, 32, 0, 0);
+        x.prefer(4);
+        x.lay();
+        found("lay", x, 1, 32, 1, 0);
+        x.clear(0);
+        found("clear", x, 1, 32, 1, 1);
+        x.set(3, 16, 16, 2);
+        found("set", x, 1, 32, 1, 0);
+        x.layAll();
+        found("layAll", x, 1, 32, 1, 1);
+        write(x, "space 5;span 16 16 prot;");
+        x.store();
+        due("store", x.plan(0, 1), 1);
+        due("store", x.most(0), 31);
+        due("store", x.withPages(1), 0);
     }
 
     private static void told() {
@@ -857,6 +907,13 @@ public final class PromisesTest {
         due("stir", x.stir(-1), -1);
         SpanKinds y = of("space 4;fixed 3" + times(" none", 8) + ";reg 0 16 back;");
         due("fixed ones are not stirred", y.stir(0), 8);
+        SpanKinds z = of("space 4;registers 4;span 0 3 back;span 8 11 comb;span 12 12 prot;reg 0 4 back;reg 14 2 thru;");
+        due("one stays", z.change(0), 3);
+        int[] due = {2, 4, 1};
+        for (int i = 0; i < 3; i++) {
+            due("order", z.order(i), i);
+            due("stir", z.stir(i), due[i]);
+        }
     }
 
     private static void block() {
@@ -983,7 +1040,10 @@ public final class PromisesTest {
                 tidyMany();
             }
             case 17 -> undo();
-            case 18 -> redo();
+            case 18 -> {
+                redo();
+                foundAnew();
+            }
             case 19 -> told();
             case 20 -> register();
             case 21 -> part();

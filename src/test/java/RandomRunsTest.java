@@ -219,6 +219,29 @@ public final class RandomRunsTest {
         }
     }
 
+    /** Registers near the plan: a change of some steps, many of which can be made in some order. */
+    private void changeAround() throws Exception {
+        call("lay");
+        int acts = 1 + below(5);
+        for (int i = 0; i < acts; i++) {
+            int block = 1 << below(5);
+            int[] s = someSpan();
+            switch (below(5)) {
+                case 0 -> call("clear", below(10));
+                case 1, 2 -> call("set", below(10), below(size / block) * block, block, someKind());
+                case 3 -> call("span", s[0], s[1], someKind());
+                default -> call("drop", below(6));
+            }
+        }
+        for (int i = 0; i < 3; i++) {
+            call("change", i);
+        }
+        for (int i = 0; i < 13; i++) {
+            call("order", i);
+            call("stir", i);
+        }
+    }
+
     private static List<Method> face() {
         List<Method> all = new ArrayList<>();
         for (Method m : SpanKinds.class.getDeclaredMethods()) {
@@ -250,10 +273,56 @@ public final class RandomRunsTest {
             if (below(60) == 0 && size <= 64) {
                 run.askAll();
             }
+            if (below(40) == 0 && size <= 64) {
+                run.changeAround();
+            }
             if (below(80) == 0) {
                 run.giveStore(below(2) == 0 ? someStore(4 + below(3)) : broken(someStore(4 + below(3))));
             }
         }
+        return run.calls;
+    }
+
+    private void sample(String name) throws Exception {
+        int n = (Integer) call(name, -1, 7)[0];
+        for (int i = 0; i < 6; i++) {
+            int at = i == 0 ? n - 1 : i == 1 ? n : below(n + 1);
+            for (int what = 0; what < 3; what++) {
+                call(name, at, what);
+            }
+        }
+    }
+
+    /** The greatest SPACE, cut in as many places as can be: the most blocks that there are. */
+    private static int crowded(int number) throws Exception {
+        seed = number * 31337L + 3;
+        RandomRunsTest run = new RandomRunsTest();
+        StringBuilder text = new StringBuilder("space 10;registers 10;default " + KINDS[someKind()] + ";");
+        int step = 1024 / 12;
+        for (int i = 0; i < 12; i++) {
+            int from = i * step + 1 + 2 * below(10);
+            int to = from + 2 * (5 + below(20));
+            text.append("span ").append(from).append(' ').append(to).append(' ').append(KINDS[someKind()]).append(';');
+        }
+        if (below(2) == 0) {
+            text.append("fixed ").append(3 + below(4)).append(" none none none none none none none none;");
+        }
+        run.giveStore(text.toString());
+        run.sample("plan");
+        run.sample("pagedPlan");
+        run.call("withPages", 1);
+        for (int i = 0; i < 5; i++) {
+            run.call("pageFor", below(64));
+            run.call("most", 6 + i);
+            run.call("bestSet", 10, 2 * i, 0);
+            run.call("byDefault", i);
+        }
+        run.call("cost", 0);
+        run.call("tidy");
+        run.call("mend");
+        run.call("strange", 0);
+        run.call("bits", 0);
+        run.call("besides", 1, 4, 1);
         return run.calls;
     }
 
@@ -277,7 +346,8 @@ public final class RandomRunsTest {
         for (int i = 0; i < runs; i++) {
             calls += oneRun(i);
             calls += brokenTexts(i);
+            calls += i % 40 == 0 ? crowded(i) : 0;
         }
-        System.out.println(calls + " calls in " + 2 * runs + " runs are answered alike");
+        System.out.println(calls + " calls are answered alike");
     }
 }
