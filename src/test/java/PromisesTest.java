@@ -1017,6 +1017,67 @@ public final class PromisesTest {
         due("about", x.about(Integer.MAX_VALUE), -1);
     }
 
+    /** As many addresses, registers, pages, spans and runs as there can be. */
+    private static SpanKinds crowded() {
+        StringBuilder text = new StringBuilder("space 10;registers 10;");
+        for (int i = 0; i < 12; i++) {
+            text.append("span ").append(80 * i + 1).append(' ').append(80 * i + 5).append(" comb;");
+        }
+        for (int i = 0; i < 10; i++) {
+            text.append("reg ").append(80 * i).append(" 16 comb;");
+        }
+        SpanKinds x = of(text.toString());
+        for (int i = 0; i < 64; i++) {
+            due("page", x.page(i, 1), 5);
+        }
+        return x;
+    }
+
+    private static void limits() {
+        SpanKinds x = crowded();
+        int[] due = {1024, 10, 10, 0, 12, 0, 25, 16, 0, 0, 64, 64};
+        for (int i = 0; i < due.length; i++) {
+            due("about(" + i + ")", x.about(i), due[i]);
+        }
+        due("the last run", x.run(24, 0) * 10 + x.run(24, 2), 8860);
+        due("its last address", x.run(24, 1), 1023);
+        due("side by side", x.cost(0), 36);
+        due("over one another", x.cost(1), 36);
+        due("the last of the plan", x.plan(35, 0) * 10 + x.plan(35, 1), 8842);
+        due("with pages", x.withPages(0), 36);
+        due("lay", x.lay(), -1);
+        due("layAll", x.layAll(), -1);
+        due("steps", x.change(0), 46);
+        due("too many", x.change(2), -1);
+        due("wrong", x.wrong(0), 120);
+        due("strange", x.strange(0), 120);
+        due("the best default: nothing to lay", x.bestDefault(), 1);
+        due("besides the rest of page 50", x.besides(4, 1, 0) * 1000 + x.besides(4, 1, 1), 2800);
+        due("the greatest block", x.block(0, 0) * 1000 + x.block(0, 1), 128896);
+        due("mend: all but twelve", x.mend(), 52);
+        due("image", x.image(1), 12);
+        due("tidy", x.tidy(), 12);
+        for (int i = 11; i >= 3; i--) {
+            due("drop", x.drop(i), i);
+        }
+        due("span", x.span(1023, 1023, 1), 3);
+        due("lay", x.lay(), 10);
+        due("the last register", x.register(9, 0), 1023);
+        due("no steps", x.change(0) * 10 + x.change(2), 1);
+        due("most", x.most(9) * 10000 + x.most(10), 10231024);
+        due("bestSet", x.bestSet(10, -1, 0) * 10000 + x.bestSet(10, 9, 0), 101023);
+        due("idle", x.idle(9), 0);
+        due("without", x.without(9), -1);
+        due("besides", x.besides(1, 1, 1), 2);
+        due("differs: 11 of 3, 16 of 7, the last", x.differs(1, 0), 33 + 112 + 1);
+        due("differs: nine spans and the last", x.differs(1, 1), 46);
+        due("differs", x.differs(1, 2), 0);
+        due("clear", x.clear(9), true);
+        due("one comes", x.order(0) * 10 + x.stir(0), 1);
+        due("layAll", x.layAll(), 10);
+        due("back", x.back(1), 12);
+    }
+
     private static void look(int number) {
         promise = number;
         switch (number) {
@@ -1075,7 +1136,10 @@ public final class PromisesTest {
             case 47 -> image();
             case 48 -> differs();
             case 49 -> back();
-            default -> about();
+            default -> {
+                about();
+                limits();
+            }
         }
     }
 
