@@ -1823,12 +1823,12 @@ public final class SpanKinds {
             return (node * HAVES + had) * COUNTS + blocks;
         }
 
-        /** With one block more there is nothing to look for where all are RIGHT already. */
+        /** Blocks more do nothing where all are RIGHT already, nor over KIND 0, which always wins. */
         private void weigh(int node, int had) {
             int open = tree.open(node);
             int best = -1;
             for (int blocks = 0; blocks < COUNTS; blocks++) {
-                if (best < open) {
+                if (blocks == 0 || best < open && had != 0) {
                     best = Math.max(asItIs(node, had, blocks), byItself(node, had, blocks));
                 }
                 most[cell(node, had, blocks)] = best;
@@ -1854,9 +1854,11 @@ public final class SpanKinds {
         }
 
         private int bestByHalves(int node, int had, int blocks) {
+            int lower = cell(node + 1, had, 0);
+            int upper = cell(tree.upper[node], had, blocks);
             int best = 0;
-            for (int lower = 0; lower <= blocks; lower++) {
-                best = Math.max(best, byHalves(node, had, lower, blocks - lower));
+            for (int i = 0; i <= blocks; i++) {
+                best = Math.max(best, most[lower + i] + most[upper - i]);
             }
             return best;
         }
