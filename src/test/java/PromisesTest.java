@@ -1,66 +1,5 @@
 /** Each promise of the document by itself; what is due was found by hand. */
-public final class PromisesTest {
-    private static int wrong = 0;
-    private static int looked = 0;
-    private static int promise = 0;
-
-    private static void due(String what, long got, long want) {
-        looked++;
-        if (got != want) {
-            wrong++;
-            System.out.println("promise " + promise + ": " + what + " answered " + got + ", due is " + want);
-        }
-    }
-
-    private static void due(String what, boolean got, boolean want) {
-        due(what, got ? 1 : 0, want ? 1 : 0);
-    }
-
-    private static void write(SpanKinds x, String text) {
-        for (int i = 0; i < text.length(); i += 20) {
-            int[] five = new int[5];
-            for (int j = 0; j < 20; j++) {
-                five[j / 4] = five[j / 4] << 8 | (i + j < text.length() ? text.charAt(i + j) : ' ');
-            }
-            x.feed(five[0], five[1], five[2], five[3], five[4]);
-        }
-        x.end(text.length());
-    }
-
-    private static SpanKinds of(String text) {
-        SpanKinds x = new SpanKinds();
-        write(x, text);
-        if (x.store() < 0) {
-            wrong++;
-            System.out.println("promise " + promise + ": not a store: " + text);
-        }
-        return x;
-    }
-
-    private static void faulty(String text, int fault, int place) {
-        SpanKinds x = new SpanKinds();
-        write(x, text);
-        due("store of '" + text + "'", x.store(), -1);
-        due("fault(0) of '" + text + "'", x.fault(0), fault);
-        due("fault(1) of '" + text + "'", x.fault(1), place);
-    }
-
-    private static void good(String text, int spans) {
-        SpanKinds x = new SpanKinds();
-        write(x, text);
-        due("store of '" + text + "'", x.store(), spans);
-        due("fault(0) of '" + text + "'", x.fault(0), 0);
-        due("fault(1) of '" + text + "'", x.fault(1), -1);
-    }
-
-    private static String times(String text, int n) {
-        StringBuilder all = new StringBuilder();
-        for (int i = 0; i < n; i++) {
-            all.append(text);
-        }
-        return all.toString();
-    }
-
+public final class PromisesTest extends Bench {
     private static void newObject() {
         SpanKinds x = new SpanKinds();
         int[] due = {256, 8, 0, 0, 0, 0, 1, 0, 0, 0, 16, 0};
@@ -1079,7 +1018,7 @@ public final class PromisesTest {
     }
 
     private static void look(int number) {
-        promise = number;
+        at("promise " + number);
         switch (number) {
             case 1 -> newObject();
             case 2 -> feed();
@@ -1145,16 +1084,12 @@ public final class PromisesTest {
 
     public static void main(String[] args) {
         for (int i = 1; i <= 50; i++) {
-            int before = looked;
+            int before = looked();
             look(i);
-            if (looked == before) {
-                wrong++;
-                System.out.println("promise " + i + " has no test");
+            if (looked() == before) {
+                fail("there is no test");
             }
         }
-        System.out.println(looked + " answers looked at, " + wrong + " not as due");
-        if (wrong != 0) {
-            System.exit(1);
-        }
+        finish();
     }
 }
