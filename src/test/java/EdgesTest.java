@@ -141,12 +141,27 @@ public final class EdgesTest extends Bench {
             due("the first ADDRESS", plan(of("space 10;span 0 0 " + KINDS[kind] + ";")), "0 1 " + kind + ";");
         }
         at("where what it has from above and that go TOGETHER and make another thing");
-        due("0 over 4", plan(of("space 4;default comb;span 0 15 back;span 7 7 none;")), "0 16 4; 7 1 0;");
+        for (int kind = 1; kind < 5; kind++) {
+            String other = kind == 1 ? "prot" : "comb";
+            due("0 over " + kind, plan(of("space 4;default " + other + ";span 0 15 " + KINDS[kind] + ";span 7 7 none;")),
+                "0 16 " + kind + "; 7 1 0;");
+        }
         due("2 over 4", plan(of("space 4;span 0 15 back;span 7 7 thru;")), "0 16 4; 7 1 2;");
         due("4 not over 2", plan(of("space 4;span 0 15 thru;span 7 7 back;")), "0 4 2; 4 2 2; 6 1 2; 7 1 4; 8 8 2;");
         due("1 not over 4", plan(of("space 4;span 0 15 back;span 7 7 comb;")), "0 4 4; 4 2 4; 6 1 4; 7 1 1; 8 8 4;");
         due("0 over 2 over 4", plan(of("space 4;default comb;span 0 15 back;span 4 7 thru;span 5 5 none;")),
             "0 16 4; 4 4 2; 5 1 0;");
+        for (int a = 1; a < 5; a++) {
+            for (int b = 1; b < 5; b++) {
+                if (a != b && !(a == 4 && b == 2)) {
+                    String other = a != 1 && b != 1 ? "comb" : a != 3 && b != 3 ? "prot" : "thru";
+                    String text = "space 4;default " + other + ";span 0 15 " + KINDS[a] + ";span 7 7 " + KINDS[b] + ";";
+                    boolean isOther = KINDS[b].equals(other);
+                    due(b + " not over " + a, of(text).cost(1), isOther ? 4 : 5);
+                    due(b + " not over " + a, of(text).most(2), 15);
+                }
+            }
+        }
         at("LEAST, ADDED");
         SpanKinds x = of("space 10;default comb;span 0 1023 back;span 511 511 none;");
         due("side by side", x.cost(0), 1 + 9 + 1);
@@ -180,6 +195,18 @@ public final class EdgesTest extends Bench {
         due("B of one ADDRESS", bestSet(of("space 4;span 15 15 prot;"), 10), "15 1 3;");
         due("KIND 0 ahead of others", bestSet(of("space 4;default back;span 0 7 none;span 8 15 comb;"), 1), "8 8 1;");
         due("both wanted of a half", bestSet(of("space 4;default back;span 0 3 none;span 4 7 comb;fixed 3" + FIXED_NONE), 1), "");
+        due("KIND 0", bestSet(of("space 4;default back;span 0 7 none;"), 1), "0 8 0;");
+        due("KIND 0 for all", bestSet(of("space 4;default back;span 0 15 none;"), 1), "0 16 0;");
+        due("KIND 0 over another", bestSet(of("space 4;default comb;span 0 15 back;span 9 9 none;"), 2), "0 16 4; 9 1 0;");
+        due("of KINDS that are as good the least",
+            bestSet(of("space 4;default back;span 0 15 comb;span 0 3 none;span 8 11 none;"), 1), "0 16 0;");
+        due("nothing goes over KIND 0", bestSet(of("space 4;default back;span 0 15 none;span 9 9 comb;"), 1), "0 16 0;");
+        due("halves are no worse", bestSet(of("space 4;default back;span 0 15 none;span 9 9 comb;"), 2), "0 8 0; 8 8 0;");
+        due("one less behind B", bestSet(of("space 4;span 0 15 back;span 3 3 thru;span 6 6 thru;span 13 13 thru;"), 2),
+            "0 16 4; 13 1 2;");
+        x = of("space 4;default back;span 0 15 comb;span 2 3 none;span 4 7 thru;span 12 15 thru;");
+        due("comb would need one more to be as good", bestSet(x, 1), "0 16 2;");
+        due("with one more none is taken out", bestSet(x, 2), "0 16 2; 2 2 0;");
         due("B itself: halves put fewer right", bestSet(of("space 4;span 0 15 back;span 9 9 comb;"), 1), "0 16 4;");
     }
 
@@ -192,6 +219,11 @@ public final class EdgesTest extends Bench {
         due("the ends of page 62", x.seen(992) * 10 + x.seen(1007), 22);
         due("the ends of page 63", x.seen(1008) * 10 + x.seen(1023), 33);
         due("strange", x.strange(0) * 10 + x.strange(1), 640);
+        for (int page = 0; page < 4; page++) {
+            x = of("space 6;default back;page " + page + " none;");
+            due("a PAGE and no more", x.strange(0) * 100 + x.strange(1), 1600 + 16 * page);
+            due("mend", x.mend() * 10 + x.strange(0), 10);
+        }
         at("promise 27: the first of them (1; NONE)");
         due("all", of("space 10;span 0 1023 comb;").strange(0), 1024);
         x = of("space 10;span 1023 1023 comb;");
@@ -246,6 +278,11 @@ public final class EdgesTest extends Bench {
         due("the whole, and a PAGE's KIND", pagedPlan(x) + x.pageFor(0) + x.pageFor(1), "0 1024 4;25");
         x = of("space 5;span 0 31 back;");
         due("the whole", pagedPlan(x) + x.pageFor(0) + x.pageFor(1), "0 32 4;55");
+        x = of("space 5;span 0 15 thru;span 16 31 prot;");
+        due("the whole, seen by two KINDS", pagedPlan(x) + x.pageFor(0) + x.pageFor(1), "0 32 4;23");
+        x = of("space 6;span 0 15 thru;span 16 31 prot;span 32 47 comb;");
+        due("the whole, seen by four KINDS", pagedPlan(x) + x.pageFor(0) + x.pageFor(1) + x.pageFor(2) + x.pageFor(3),
+            "0 64 4;2310");
         x = of("space 5;fixed 4" + FIXED_NONE + "span 0 31 back;");
         due("halves as few as the whole", pagedPlan(x) + x.pageFor(0) + x.pageFor(1), "16 16 4;55");
         at("none that is FIXED");
@@ -434,6 +471,23 @@ public final class EdgesTest extends Bench {
         due("nothing told", of("default back;").bestDefault(), 0);
     }
 
+    private static void anyOrder() {
+        at("promises 33 to 36: in whatever order they are asked");
+        SpanKinds x = of("space 4;default comb;span 0 15 back;span 6 6 thru;");
+        for (int i = 0; i < 3; i++) {
+            due("side by side", x.cost(0), 5);
+            due("with a DEFAULT", x.byDefault(1), 2);
+            due("side by side", x.cost(0), 5);
+            due("the best", x.bestDefault() * 10 + x.byDefault(4), 41);
+            due("side by side", x.cost(0), 5);
+            due("paged", x.withPages(0), 2);
+            due("side by side", x.cost(0), 5);
+            due("over one another", x.cost(1), 2);
+            due("the plan", plan(x), "0 16 4; 6 1 2;");
+            x.prefer(i == 0 ? 3 : 1);
+        }
+    }
+
     private static void oneRegister() {
         at("promise 39: without it each ADDRESS would be of the same KIND");
         for (int kind = 0; kind < 5; kind++) {
@@ -506,6 +560,10 @@ public final class EdgesTest extends Bench {
         due("none", order(x), "");
         x = of("space 4;registers 2;default prot;span 0 7 comb;reg 0 8 none;");
         due("room", order(x), "1/0 0/8");
+        x = of("space 5;registers 2;default prot;span 0 7 thru;span 16 23 comb;reg 16 8 none;");
+        due("thru, were it the first, would take the room that comb needs", order(x), "2/0 0/8 1/8");
+        x = of("space 5;registers 3;default prot;span 0 7 thru;span 16 23 comb;reg 16 8 none;");
+        due("room for both", order(x), "1/8 2/0 0/8");
         at("of a KIND that it has ahead of all, or behind all, or of KIND 0");
         x = of("space 4;default none;span 0 15 comb;reg 0 16 thru;");
         due("none between", order(x), "0/16 1/16");
@@ -515,6 +573,28 @@ public final class EdgesTest extends Bench {
         due("a clash that it has ahead of all", order(x), "1/4 2/4 0/0");
         x = of("space 4;fixed 4" + FIXED_NONE + "reg 0 16 thru;reg 0 8 comb;");
         due("all FIXED", order(x), "0/0 1/0");
+        at("of all SAFE ORDERS the first, found anew behind an ACT");
+        x = of("space 4;registers 2;default prot;span 0 7 comb;reg 0 8 none;");
+        due("the COME first", order(x), "1/0 0/8");
+        x.prefer(0);
+        due("the GO first", order(x), "0/0 1/8");
+        x.undo();
+        due("the COME first", order(x), "1/0 0/8");
+        x.set(1, 8, 8, 3);
+        due("it must go, to make room", order(x), "1/0 2/0 0/8");
+        x = of("space 4;registers 2;default prot;reg 0 8 none;");
+        due("one goes", order(x), "0/8");
+        x.set(0, 8, 8, 0);
+        due("another goes", order(x), "0/8");
+        x = of("space 4;default comb;span 0 7 thru;reg 0 8 thru;reg 0 4 back;");
+        due("what stays is there all the time", order(x), "0/0");
+        x = of("space 4;registers 2;span 0 0 comb;span 15 15 comb;");
+        x.lay();
+        x.drop(1);
+        due("what the PLAN had ahead of it goes", order(x), "0/1");
+        x.drop(0);
+        due("all of it", order(x), "0/1 1/1");
+        sevenSteps();
         at("no STEPS");
         x = of("space 4;span 0 7 comb;reg 0 8 comb;");
         due("it is the PLAN", x.change(0) * 100 + x.change(1) * 10 + x.change(2), 1);
@@ -529,6 +609,28 @@ public final class EdgesTest extends Bench {
         due("none", order(x), "");
         x = of("space 4;registers 2;span 0 0 comb;span 15 15 comb;");
         due("enough", order(x), "0/1 1/1");
+    }
+
+    /** The first GO is not safe till the COME has come: all sets of the others are tried with it. */
+    private static void sevenSteps() {
+        for (int others = 1; others <= 9; others++) {
+            SpanKinds x = of("space 8;registers 10;default prot;span 0 7 comb;reg 0 8 none;");
+            StringBuilder all = new StringBuilder();
+            for (int i = 1; i <= others; i++) {
+                x.set(i, 64 + 8 * i, 2, 0);
+                all.append(i).append("/2 ");
+            }
+            due("the first GO last, " + others + " others", order(x), all.append(others + 1).append("/0 0/8").toString());
+        }
+        for (int goes = 1; goes <= 8; goes++) {
+            SpanKinds x = of("space 7;registers 10;default prot;span 0 63 comb;");
+            StringBuilder all = new StringBuilder().append(goes).append('/').append(64 - 8 * goes);
+            for (int i = 0; i < goes; i++) {
+                x.set(i, 8 * i, 8, 0);
+                all.append(' ').append(i).append("/8");
+            }
+            due("the COME ahead of " + goes + " GOs", order(x), all.toString());
+        }
     }
 
     private static void twelveSteps() {
@@ -611,6 +713,17 @@ public final class EdgesTest extends Bench {
         due("none WANTED otherwise", x.differs(0, 1), 0);
         x.prefer(3);
         due("DEFAULT is no matter where SPANS are", x.differs(0, 1), 0);
+        x = of("space 8;span 3 5 comb;");
+        x.image(1);
+        x.span(101, 107, 2);
+        due("WANTED now", x.differs(1, 1), 7);
+        x.drop(0);
+        due("WANTED then, too", x.differs(1, 1), 10);
+        x.set(3, 40, 8, 2);
+        x.image(0);
+        x.clear(3);
+        x.set(0, 50, 2, 1);
+        due("a REGISTER now, another then", x.differs(0, 0) * 100 + x.differs(0, 2), 1040);
         at("promise 48: but PAGES are no matter");
         x = of("space 4;");
         x.image(1);
@@ -693,6 +806,7 @@ public final class EdgesTest extends Bench {
         registersFull();
         wrongOnes();
         defaults();
+        anyOrder();
         oneRegister();
         besides();
         changes();

@@ -309,6 +309,7 @@ public final class TextEdgesTest extends Bench {
         due("nothing comes", x.about(9), 800);
         due("no zeros there", x.store(), 0);
         for (int n = 780; n <= 800; n++) {
+            x = new SpanKinds();
             write(x, times(" ", 800));
             x.end(n);
             due("at " + n, x.feed(0, 0, 0, 0, 0), n == 780 ? 800 : -1);
@@ -347,6 +348,19 @@ public final class TextEdgesTest extends Bench {
         due("what was behind is gone", x.end(15), -1);
         due("store", x.store(), 1);
         due("the tape is empty", x.end(1), -1);
+        at("promise 3: its first n bytes alone");
+        String[] texts = {"space 44;", "span 0 1 nonesuch;", "space 4;registers 10;", "span  0 1 none;"};
+        int[] ends = {7, 13, 20, 4};
+        for (int i = 0; i < texts.length; i++) {
+            write(x, texts[i]);
+            x.end(ends[i]);
+            due("store of the first " + ends[i], x.store(), -1);
+            due("the end is the FAULT", x.fault(0) * 100 + x.fault(1), 100 + ends[i]);
+        }
+        at("promise 3: all 800 of them");
+        faulty(times(" ", 793) + "space 4", 1, 800);
+        faulty(times(" ", 788) + "default back", 1, 800);
+        faulty(times(" ", 794) + "spacex", 1, 794);
     }
 
     private static void stores() {
