@@ -595,6 +595,7 @@ public final class EdgesTest extends Bench {
         x.drop(0);
         due("all of it", order(x), "0/1 1/1");
         sevenSteps();
+        wrongStarts();
         at("no STEPS");
         x = of("space 4;span 0 7 comb;reg 0 8 comb;");
         due("it is the PLAN", x.change(0) * 100 + x.change(1) * 10 + x.change(2), 1);
@@ -633,6 +634,17 @@ public final class EdgesTest extends Bench {
         }
     }
 
+    /** A STEP that is safe by itself, and behind which no other ever is: what was tried so is no matter later. */
+    private static void wrongStarts() {
+        at("of all SAFE ORDERS the first, behind a STEP that leads nowhere");
+        SpanKinds x = of("space 8;default back;span 0 15 thru;reg 0 256 back;reg 64 64 thru;reg 96 16 prot;");
+        due("back, gone first, is missed by prot and thru", order(x), "1/48 2/16 0/0 3/16");
+        x = of("space 8;default back;span 64 71 prot;reg 40 8 comb;reg 0 256 back;reg 32 32 thru;");
+        due("back, gone first, is missed by comb and thru", order(x), "2/24 0/8 1/0 3/8");
+        x = of("space 8;default back;reg 224 16 back;reg 224 8 comb;reg 128 128 thru;reg 0 64 thru;");
+        due("the lesser back, gone first, is missed too", order(x), "2/120 1/8 0/0 3/64");
+    }
+
     private static void twelveSteps() {
         for (int goes = 0; goes <= 10; goes++) {
             SpanKinds x = of("space 7;registers 10;span 1 1 comb;span 3 3 comb;span 5 5 comb;");
@@ -652,6 +664,11 @@ public final class EdgesTest extends Bench {
             x.set(i, 12 * i, 1, 1);
         }
         due("10 GOs", order(x), "0/1 1/1 2/1 3/1 4/1 5/1 6/1 7/1 8/1 9/1");
+        x = of("space 8;default prot;span 0 255 thru;span 128 255 none;span 232 239 back;reg 192 32 comb;reg 64 64 none;"
+            + "reg 208 8 back;reg 192 64 back;reg 152 8 thru;reg 0 256 none;reg 32 16 prot;");
+        due("thru in a PLAN of more", x.plan(-1, 0), 6);
+        x.drop(0);
+        due("none over all goes when all have come", order(x), "0/0 1/0 2/0 3/0 4/0 6/0 7/0 8/0 9/0 10/0 11/0 5/136");
     }
 
     private static void blocksAndBits() {
