@@ -192,12 +192,31 @@ public final class EdgesTest extends Bench {
             + "1016 4 4; 1020 2 4; 1022 2 4;");
         due("no more than can be of use", bestSet(of("space 4;span 14 15 back;"), 10), "14 1 4; 15 1 4;");
         due("with 0 for the lower half", bestSet(of("space 4;span 0 3 back;span 8 11 back;"), 1), "8 4 4;");
-        due("B of one ADDRESS", bestSet(of("space 4;span 15 15 prot;"), 10), "15 1 3;");
+        for (int r = 1; r <= 10; r++) {
+            for (int kind = 0; kind < 20; kind++) {
+                int other = (kind + 1 + kind / 5) % 5;
+                x = of("space 4;default " + KINDS[kind % 5] + ";span 15 15 " + KINDS[other] + ";");
+                due("B of one ADDRESS", bestSet(x, r), "15 1 " + other + ";");
+            }
+        }
+        x = of("space 4;span 14 14 comb;span 15 15 prot;");
+        for (int r = 2; r <= 10; r++) {
+            due("two of one ADDRESS each, some left", bestSet(x, r), "14 1 1; 15 1 3;");
+        }
+        x = of("space 4;default comb;span 0 15 back;span 9 9 thru;");
+        due("thru of one ADDRESS over back", bestSet(x, 3), "0 8 4; 8 8 4; 9 1 2;");
+        due("and halves between", bestSet(x, 4), "0 8 4; 8 4 4; 9 1 2; 12 4 4;");
         due("KIND 0 ahead of others", bestSet(of("space 4;default back;span 0 7 none;span 8 15 comb;"), 1), "8 8 1;");
         due("both wanted of a half", bestSet(of("space 4;default back;span 0 3 none;span 4 7 comb;fixed 3" + FIXED_NONE), 1), "");
         due("KIND 0", bestSet(of("space 4;default back;span 0 7 none;"), 1), "0 8 0;");
         due("KIND 0 for all", bestSet(of("space 4;default back;span 0 15 none;"), 1), "0 16 0;");
-        due("KIND 0 over another", bestSet(of("space 4;default comb;span 0 15 back;span 9 9 none;"), 2), "0 16 4; 9 1 0;");
+        for (int kind = 1; kind < 5; kind++) {
+            x = of("space 4;default " + KINDS[5 - kind] + ";span 0 15 " + KINDS[kind] + ";span 9 9 none;");
+            due("KIND 0 over another", bestSet(x, 2), "0 16 " + kind + "; 9 1 0;");
+            due("all RIGHT by it", x.most(2) * 100 + x.most(1), 1615);
+        }
+        x = of("space 6;default prot;span 0 63 back;span 0 3 prot;span 4 7 thru;");
+        due("thru over back, next to what is wrong by it", bestSet(x, 2), "0 64 4; 4 4 2;");
         due("of KINDS that are as good the least",
             bestSet(of("space 4;default back;span 0 15 comb;span 0 3 none;span 8 11 none;"), 1), "0 16 0;");
         due("nothing goes over KIND 0", bestSet(of("space 4;default back;span 0 15 none;span 9 9 comb;"), 1), "0 16 0;");
@@ -467,6 +486,14 @@ public final class EdgesTest extends Bench {
             due("all wanted " + kind, of("default comb;span 0 255 " + KINDS[kind] + ";").bestDefault(), kind);
             due("all FIXED", of("space 4;default comb;fixed 4" + FIXED_NONE + "span 0 15 " + KINDS[kind] + ";").bestDefault(), 0);
         }
+        for (int kind = 0; kind < 5; kind++) {
+            StringBuilder text = new StringBuilder("space 4;default prot;");
+            for (int i = 0; i < 7; i++) {
+                text.append("span ").append(2 * i).append(' ').append(2 * i).append(' ').append(KINDS[i < 5 ? i : kind]).append(';');
+            }
+            x = of(text.toString());
+            due("three are " + kind, x.bestDefault() * 100 + x.byDefault(kind) * 10 + x.byDefault((kind + 1) % 5), kind * 100 + 46);
+        }
         due("two alike", of("space 4;span 0 7 back;span 8 15 prot;").bestDefault(), 3);
         due("nothing told", of("default back;").bestDefault(), 0);
     }
@@ -501,6 +528,14 @@ public final class EdgesTest extends Bench {
         x = of("space 4;reg 0 16 comb;reg 0 8 prot;reg 0 4 thru;");
         due("it clashes with it, and without", x.idle(2), 1);
         due("4 to 7 would not clash", x.idle(1), 0);
+        for (int size = 1; size <= 16; size *= 2) {
+            for (int base = 0; base < 16; base += size) {
+                x = of("space 4;default comb;reg " + base + " " + size + " thru;");
+                due("nothing but it, from " + base + ", of " + size, x.idle(0) * 100 + x.without(0), size);
+                x = of("space 4;default comb;reg " + base + " " + size + " comb;");
+                due("as DEFAULT, from " + base + ", of " + size, x.idle(0) * 100 + x.without(0), 100);
+            }
+        }
         at("promise 40: how many would be RIGHT that are not, less those that would not be and are");
         x = of("space 10;reg 0 1024 comb;");
         due("all the more", x.without(0), 1024);
@@ -643,6 +678,25 @@ public final class EdgesTest extends Bench {
         due("back, gone first, is missed by comb and thru", order(x), "2/24 0/8 1/0 3/8");
         x = of("space 8;default back;reg 224 16 back;reg 224 8 comb;reg 128 128 thru;reg 0 64 thru;");
         due("the lesser back, gone first, is missed too", order(x), "2/120 1/8 0/0 3/64");
+        at("of all SAFE ORDERS the first, of seven STEPS and more");
+        x = of("space 6;default back;span 0 31 none;span 2 3 comb;reg 0 32 thru;reg 0 64 comb;reg 52 4 back;reg 0 8 none;");
+        due("9", order(x), "4/0 5/0 7/8 8/16 0/0 1/32 2/0 6/0 3/2");
+        x = of("space 6;default prot;span 0 63 back;span 2 3 comb;reg 0 64 thru;reg 0 32 thru;reg 0 16 none;reg 56 4 none;");
+        due("10", order(x), "1/0 4/0 5/0 6/0 8/0 9/0 0/44 3/4 7/0 2/16");
+        x = of("space 6;default comb;span 0 63 none;span 36 39 thru;span 28 29 comb;reg 32 16 back;reg 0 32 comb;reg 48 4 thru;");
+        due("11", order(x), "1/0 3/16 4/8 5/4 7/4 8/4 9/8 0/0 10/16 2/0 6/2");
+        x = of("space 6;default back;span 0 31 none;reg 0 64 thru;reg 24 2 comb;reg 32 32 back;reg 16 8 none;reg 0 4 comb;"
+            + "reg 32 16 comb;");
+        due("the COME, last of 7, first", order(x), "6/24 0/16 1/0 3/0 4/0 5/16 2/0");
+        x = of("space 6;registers 9;default back;reg 54 2 prot;reg 32 16 prot;reg 32 32 back;reg 16 8 comb;reg 48 4 none;"
+            + "reg 0 32 back;reg 0 64 thru;");
+        due("a GO, last of 7, first", order(x), "6/34 0/2 1/16 2/0 3/8 4/4 5/0");
+        x = of("space 6;default back;reg 0 32 thru;reg 0 64 back;reg 32 8 prot;reg 8 2 prot;reg 0 4 none;reg 56 8 thru;"
+            + "reg 8 8 thru;");
+        due("7 GOs", order(x), "0/20 2/8 4/4 5/8 6/6 3/2 1/0");
+        x = of("space 6;default back;reg 2 2 back;reg 0 32 none;reg 0 64 back;reg 0 4 back;reg 48 8 thru;reg 24 4 comb;"
+            + "reg 50 2 comb;");
+        due("7 GOs, back last", order(x), "0/0 3/0 4/6 5/0 1/32 6/2 2/0");
     }
 
     private static void twelveSteps() {
@@ -659,7 +713,11 @@ public final class EdgesTest extends Bench {
             }
             due("the order", order(x), all.toString().trim());
         }
-        SpanKinds x = of("space 7;registers 10;default none;");
+        SpanKinds x = of("space 6;registers 9;default thru;span 0 63 back;span 16 17 comb;span 8 9 comb;reg 32 16 thru;"
+            + "reg 0 64 prot;reg 8 8 thru;");
+        due("12, and no order is safe", x.change(0) * 100 + x.change(1) * 10 + x.change(2), 1230);
+        due("none", order(x), "");
+        x = of("space 7;registers 10;default none;");
         for (int i = 0; i < 10; i++) {
             x.set(i, 12 * i, 1, 1);
         }
@@ -741,6 +799,11 @@ public final class EdgesTest extends Bench {
         x.clear(3);
         x.set(0, 50, 2, 1);
         due("a REGISTER now, another then", x.differs(0, 0) * 100 + x.differs(0, 2), 1040);
+        x = of("space 4;default comb;reg 0 16 thru;");
+        x.image(0);
+        x.prefer(3);
+        due("DEFAULT is no matter where REGISTERS are", x.differs(0, 0) * 100 + x.differs(0, 2), -2);
+        due("but is WANTED", x.differs(0, 1), 16);
         at("promise 48: but PAGES are no matter");
         x = of("space 4;");
         x.image(1);
