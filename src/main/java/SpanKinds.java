@@ -1873,7 +1873,7 @@ public final class SpanKinds {
                 return;
             }
             int has = had;
-            for (int left = blocks; left > 0 && depth <= DEEPEST; left--) {
+            for (int left = blocks; left > 0 && has >= 0 && depth <= DEEPEST; left--) {
                 int best = most[cell(node, has, left)];
                 if (most[cell(node, has, 0)] == best) {
                     return;
@@ -1897,7 +1897,7 @@ public final class SpanKinds {
          */
         private void layAlike(int node, int base, int size, int had, int blocks, int depth) {
             int has = had;
-            for (int left = blocks; left > 0 && depth <= DEEPEST; left--) {
+            for (int left = blocks; left > 0 && has >= 0 && depth <= DEEPEST; left--) {
                 if (most[cell(node, has, 0)] == most[cell(node, has, left)]) {
                     return;
                 }
